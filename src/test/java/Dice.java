@@ -1,0 +1,18 @@
+/** The same numbers in every run, so that a failure can be seen again. */
+final class Dice {
+    private long state;
+
+    Dice(long seed) {
+        state = seed * 0x9E3779B97F4A7C15L + 1;
+    }
+
+    /** From 0 to sides - 1. */
+    int roll(int sides) {
+        state = state * 6364136223846793005L + 1442695040888963407L;
+        return (int) ((state >>> 33) % sides);
+    }
+
+    int between(int least, int greatest) {
+        return least + roll(greatest - least + 1);
+    }
+}
