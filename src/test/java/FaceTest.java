@@ -89,6 +89,7 @@ public final class FaceTest {
 
     private static void tryAll(Method method) throws ReflectiveOperationException {
         CreditNetwork x = new CreditNetwork();
+        CreditNetwork worn = new CreditNetwork();
         int count = method.getParameterCount();
         int all = 1;
         for (int i = 0; i < count; i++) {
@@ -101,8 +102,11 @@ public final class FaceTest {
                 given[i] = ODD[rest % ODD.length];
                 rest /= ODD.length;
             }
-            // A throw inside comes out of invoke and ends the test.
+            // What is answered after 512 calls is free, but even then no call may throw. A throw inside
+            // comes out of invoke and ends the test.
+            x = number % 512 == 0 ? new CreditNetwork() : x;
             int answer = (Integer) method.invoke(x, given);
+            method.invoke(worn, given);
             if (count == 3) {
                 int u = (Integer) given[0];
                 int v = (Integer) given[1];

@@ -7,13 +7,12 @@ import java.util.List;
  */
 public final class FlowTest {
     private static final int MEMBERS = 7;
-    private static final int CALLS = 512;
 
     private final Dice dice;
     private final String name;
     private final int largest;
     private final int members;
-    private final CreditNetwork network = new CreditNetwork();
+    private final Net network = new Net();
     private final int[][] trust = new int[MEMBERS][MEMBERS];
     // b[u][v]: what u owes v; b[v][u] is the same below 0.
     private int[][] b = new int[MEMBERS][MEMBERS];
@@ -29,18 +28,20 @@ public final class FlowTest {
     public static void main(String[] args) {
         for (int seed = 1; seed <= 200; seed++) {
             FlowTest test = new FlowTest(seed);
-            for (int call = 0; call < CALLS; call++) {
-                test.oneCall(call);
+            // To the last call that the document speaks of; some rounds make two.
+            for (int round = 0; test.network.left() > 1; round++) {
+                test.oneCall(round);
             }
+            test.lastCall();
         }
         Check.end();
     }
 
-    private void oneCall(int call) {
+    private void oneCall(int round) {
         int u = member();
         int v = member();
         // Much trust at first, so that there is something to pay with.
-        int kind = call < 3 * members ? 0 : dice.roll(16);
+        int kind = round < 3 * members ? 0 : dice.roll(16);
         switch (kind) {
             case 0: trust(u, v, dice.between(-1, largest)); break;
             case 1: withdraw(u, v); break;
@@ -58,6 +59,12 @@ public final class FlowTest {
             case 13: leastAndGreatest(u, v); break;
             case 14: debts(); break;
             default: open(); break;
+        }
+    }
+
+    private void lastCall() {
+        if (network.left() == 1) {
+            debts();
         }
     }
 

