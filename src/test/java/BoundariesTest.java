@@ -28,7 +28,8 @@ public final class BoundariesTest {
         gatherListHasSix();
         gatherEachPlaceOfTheList();
         clearPositionsBetween();
-        clearEdgeOfThePossible();
+        forEachPair(BoundariesTest::clearEdgeOfThePossible);
+        clearEdgeOfASet();
         clearListIsEmptyThen();
         clearRefusedKeepsTheList();
         clearAnswersHowMany();
@@ -57,6 +58,14 @@ public final class BoundariesTest {
                 }
             }
         }
+    }
+
+    private static int firstBeside(int first, int second, int third) {
+        int member = 0;
+        while (member == first || member == second || member == third) {
+            member++;
+        }
+        return member;
     }
 
     private static String name(String method, int u, int v, int amount) {
@@ -290,22 +299,31 @@ public final class BoundariesTest {
         Check.due("the last one does not", x.clear(), -3);
     }
 
-    /** Promise 6: "They are not: -3." Just possible and just not, for one payee, for two and for a set. */
-    private static void clearEdgeOfThePossible() {
+    /** Promise 6: "They are not: -3." Just possible and just not, straight and over one member for two. */
+    private static void clearEdgeOfThePossible(int u, int v) {
+        int w = firstBeside(u, v, v);
+        int last = firstBeside(u, v, w);
         for (int over = 0; over <= 1; over++) {
             Net one = new Net();
-            one.trust(1, 0, 6);
-            one.gather(0, 1, 3);
-            one.gather(0, 1, 3 + over);
+            one.trust(v, u, 6);
+            one.gather(u, v, 3);
+            one.gather(u, v, 3 + over);
             Check.due("clear, one payee, over " + over, one.clear(), over == 0 ? 2 : -3);
-            Check.due("clear, one payee, position", one.position(0), over == 0 ? -6 : 0);
+            Check.due("clear, one payee, payer's position", one.position(u), over == 0 ? -6 : 0);
+            Check.due("clear, one payee, payee's position", one.position(v), over == 0 ? 6 : 0);
             Net two = new Net();
-            two.trust(2, 0, 6);
-            two.trust(3, 2, 9);
-            two.trust(4, 2, 9);
-            two.gather(0, 3, 3);
-            two.gather(0, 4, 3 + over);
+            two.trust(w, u, 6);
+            two.trust(v, w, 9);
+            two.trust(last, w, 9);
+            two.gather(u, v, 3);
+            two.gather(u, last, 3 + over);
             Check.due("clear, two payees, over " + over, two.clear(), over == 0 ? 2 : -3);
+            Check.due("clear, two payees, position", two.position(u), over == 0 ? -6 : 0);
+        }
+    }
+
+    private static void clearEdgeOfASet() {
+        for (int over = 0; over <= 1; over++) {
             Net set = new Net();
             for (int u = 0; u < 3; u++) {
                 for (int v = 3; v < MEMBERS; v++) {
